@@ -138,7 +138,7 @@ public final class RealOperations {
         return (controlWord & event) != 0;
     }
 
-    /** Whether something was told that lets the registers as they are. */
+    /** Whether something was told that leaves the registers as they are. */
     private boolean isStopped(int said) {
         return (said & (INVALID | DENORMAL | DIVISION) & ~controlWord) != 0;
     }
@@ -324,7 +324,7 @@ public final class RealOperations {
         if (rounding() == NEAREST || rounding() == away) {
             answer.put(negative, POWER_OF_NO_SIZE, HIGHEST_BIT);
         } else {
-            answer.put(negative, GREATEST_POWER, -1L << 64 - digits());
+            answer.put(negative, GREATEST_POWER, -1L << (64 - digits()));
         }
         return OVER | LOSS;
     }
@@ -351,7 +351,7 @@ public final class RealOperations {
             if (rounded.isZero()) {
                 put(isNegative, 0, 0);
             } else if (itsPower < 1) {
-                put(isNegative, 0, rounded.high >>> 1 - itsPower);
+                put(isNegative, 0, rounded.high >>> (1 - itsPower));
             } else {
                 put(isNegative, itsPower, rounded.high);
             }
@@ -544,7 +544,8 @@ public final class RealOperations {
             if (kept == high && low == 0) {
                 return false;
             }
-            boolean away = isRoundedAway(drop, rounding, negative);
+            boolean odd = drop < 64 && (high >>> drop & 1) != 0;
+            boolean away = isRoundedAway(compareDroppedWithHalf(drop), odd, rounding, negative);
             low = 0;
             if (!away) {
                 high = kept;
@@ -561,12 +562,10 @@ public final class RealOperations {
             return true;
         }
 
-        private boolean isRoundedAway(int drop, int rounding, boolean negative) {
+        private static boolean isRoundedAway(int orderToHalf, boolean odd, int rounding, boolean negative) {
             switch (rounding) {
                 case NEAREST:
-                    int order = compareDroppedWithHalf(drop);
-                    boolean odd = drop < 64 && (high >>> drop & 1) != 0;
-                    return order > 0 || order == 0 && odd;
+                    return orderToHalf > 0 || orderToHalf == 0 && odd;
                 case DOWN:
                     return negative;
                 case UP:
@@ -583,8 +582,8 @@ public final class RealOperations {
             if (drop <= 0) {
                 return Long.compareUnsigned(low, HIGHEST_BIT);
             }
-            long half = 1L << drop - 1;
-            long dropped = high & (half << 1) - 1;
+            long half = 1L << (drop - 1);
+            long dropped = high & ((half << 1) - 1);
             int order = Long.compareUnsigned(dropped, half);
             return order == 0 && low != 0 ? 1 : order;
         }

@@ -27,6 +27,7 @@ public final class OperateTest {
     private static final String MINUS_SMALL = "8000 0000000000000001";
     private static final String UNNORMAL_ONE = "4000 4000000000000000";
     private static final String UNNORMAL_NOTHING = "4123 0000000000000000";
+    private static final String GREAT_NOTHING = "7ffe 0000000000000000";
     private static final String MINUS_UNNORMAL_NOTHING = "c123 0000000000000000";
     private static final String NO_NUMBER = "7fff 8000000000000001";
 
@@ -76,6 +77,8 @@ public final class OperateTest {
             masked(operation, ONE, NO_NUMBER, INVALID, NO_NUMBER);
             masked(operation, ZERO, "ffff 8000000000000001", INVALID, "ffff 8000000000000001");
             masked(operation, "7fff 0000000000000001", ZERO, INVALID, "7fff 0000000000000001");
+            masked(operation, "7fff 0000000000000001", "3fff ffffffffffffffff", INVALID, "7fff 0000000000000001");
+            masked(operation, "3fff ffffffffffffffff", "ffff 0000000000000001", INVALID, "ffff 0000000000000001");
             masked(operation, SMALL, "7fff 4000000000000000", INVALID, "7fff 4000000000000000");
             masked(operation, INFINITE, NO_NUMBER, INVALID, NO_NUMBER);
             masked(operation, BARE_INFINITE, NO_NUMBER, INVALID, NO_NUMBER);
@@ -112,7 +115,7 @@ public final class OperateTest {
     }
 
     private static void invalidProductsAndQuotients() {
-        String[] nothings = {ZERO, MINUS_ZERO, UNNORMAL_NOTHING, MINUS_UNNORMAL_NOTHING};
+        String[] nothings = {ZERO, MINUS_ZERO, GREAT_NOTHING, MINUS_UNNORMAL_NOTHING};
         String[] infinites = {INFINITE, MINUS_INFINITE, BARE_INFINITE, MINUS_BARE_INFINITE};
         for (int i = 0; i < 4; i++) {
             masked(Checks.TIMES, nothings[i], infinites[i], INVALID, INDEFINITE);
@@ -168,9 +171,11 @@ public final class OperateTest {
     }
 
     private static void divisions() {
-        String[] nothings = {ZERO, UNNORMAL_NOTHING};
-        for (String nothing : nothings) {
-            String minusNothing = nothing == ZERO ? MINUS_ZERO : MINUS_UNNORMAL_NOTHING;
+        String[] nothings = {ZERO, UNNORMAL_NOTHING, GREAT_NOTHING};
+        String[] minusNothings = {MINUS_ZERO, MINUS_UNNORMAL_NOTHING, "8001 0000000000000000"};
+        for (int i = 0; i < 3; i++) {
+            String nothing = nothings[i];
+            String minusNothing = minusNothings[i];
             masked(Checks.BY, ONE, nothing, DIVISION, INFINITE);
             masked(Checks.BY, ONE, minusNothing, DIVISION, MINUS_INFINITE);
             masked(Checks.BY, MINUS_ONE, nothing, DIVISION, MINUS_INFINITE);
@@ -208,14 +213,14 @@ public final class OperateTest {
     }
 
     private static void zeros() {
-        String[] nothings = {ZERO, UNNORMAL_NOTHING};
-        String[] minusNothings = {MINUS_ZERO, MINUS_UNNORMAL_NOTHING};
+        String[] nothings = {ZERO, UNNORMAL_NOTHING, GREAT_NOTHING};
+        String[] minusNothings = {MINUS_ZERO, MINUS_UNNORMAL_NOTHING, "fffe 0000000000000000"};
         for (int rounding = 0; rounding < 4; rounding++) {
             int control = MASKED | rounding << 10;
             String byRounding = rounding == 1 ? MINUS_ZERO : ZERO;
-            for (int i = 0; i < 2; i++) {
+            for (int i = 0; i < 3; i++) {
                 String plus = nothings[i];
-                String minus = minusNothings[1 - i];
+                String minus = minusNothings[2 - i];
                 CHECKS.operation(control, Checks.PLUS, plus, ZERO, 0, ZERO);
                 CHECKS.operation(control, Checks.PLUS, minus, MINUS_ZERO, 0, MINUS_ZERO);
                 CHECKS.operation(control, Checks.PLUS, plus, minus, 0, byRounding);
