@@ -1,90 +1,85 @@
-/** Promise 2: the control's word, which of its bits count, and words that are refused. */
-public final class ControlTest {
-    private static final Checks CHECKS = new Checks();
-
-    private static final String ONE = "3fff 8000000000000000";
-    private static final String MINUS_ONE = "bfff 8000000000000000";
-    private static final String THREE = "4000 c000000000000000";
-    private static final String ZERO = "0000 0000000000000000";
-    private static final String INFINITE = "7fff 8000000000000000";
-    private static final String DENORMAL = "0000 0000000000000001";
-
+/** Promise 2: the control is the word that was given last, and long words are refused. */
+public final class ControlTest extends Sentences {
     public static void main(String[] args) {
-        precisionCounts();
-        roundingCounts();
-        viewCounts();
-        masksCount();
-        othersDoNotCount();
-        longWordsAreRefused();
-        CHECKS.end();
+        new ControlTest().runAlone();
     }
 
-    private static void precisionCounts() {
-        third(0x003f, "3ffd aaaaab0000000000");
-        third(0x013f, "3ffd aaaaaaaaaaaaaaab");
-        third(0x023f, "3ffd aaaaaaaaaaaaa800");
-        third(0x033f, "3ffd aaaaaaaaaaaaaaab");
+    @Override
+    void run() {
+        lastWordCounts();
+        nothingElseChanges();
+        longWords();
     }
 
-    private static void third(int control, String answer) {
-        CHECKS.operation(control, Checks.BY, ONE, THREE, Checks.LOSS, answer);
-    }
-
-    private static void roundingCounts() {
-        third(0x073f, "3ffd aaaaaaaaaaaaaaaa");
-        third(0x0b3f, "3ffd aaaaaaaaaaaaaaab");
-        third(0x0f3f, "3ffd aaaaaaaaaaaaaaaa");
-        CHECKS.operation(0x033f, Checks.BY, MINUS_ONE, THREE, Checks.LOSS, "bffd aaaaaaaaaaaaaaab");
-        CHECKS.operation(0x073f, Checks.BY, MINUS_ONE, THREE, Checks.LOSS, "bffd aaaaaaaaaaaaaaab");
-        CHECKS.operation(0x0b3f, Checks.BY, MINUS_ONE, THREE, Checks.LOSS, "bffd aaaaaaaaaaaaaaaa");
-        CHECKS.operation(0x0f3f, Checks.BY, MINUS_ONE, THREE, Checks.LOSS, "bffd aaaaaaaaaaaaaaaa");
-    }
-
-    private static void viewCounts() {
-        CHECKS.operation(0x033f, Checks.PLUS, INFINITE, INFINITE, Checks.INVALID, "ffff c000000000000000");
-        CHECKS.operation(0x133f, Checks.PLUS, INFINITE, INFINITE, 0, INFINITE);
-    }
-
-    /** Each mask alone is not set; that of LOSS changes nothing. */
-    private static void masksCount() {
-        CHECKS.operation(0x033e, Checks.BY, ZERO, ZERO, Checks.INVALID, Checks.UNCHANGED);
-        CHECKS.operation(0x033d, Checks.PLUS, DENORMAL, ZERO, Checks.DENORMAL, Checks.UNCHANGED);
-        CHECKS.operation(0x033b, Checks.BY, ONE, ZERO, Checks.DIVISION, Checks.UNCHANGED);
-        CHECKS.operation(0x0337, Checks.TIMES, "7ffe 8000000000000000", THREE, Checks.OVER, "1fff c000000000000000");
-        CHECKS.operation(0x032f, Checks.BY, "0001 8000000000000000", "4000 8000000000000000",
-                Checks.UNDER, "6000 8000000000000000");
-        third(0x031f, "3ffd aaaaaaaaaaaaaaab");
-        // And each alone is set.
-        CHECKS.operation(0x0301, Checks.BY, ZERO, ZERO, Checks.INVALID, "ffff c000000000000000");
-        CHECKS.operation(0x0302, Checks.PLUS, DENORMAL, ONE, Checks.DENORMAL | Checks.LOSS, ONE);
-        CHECKS.operation(0x0304, Checks.BY, ONE, ZERO, Checks.DIVISION, INFINITE);
-        CHECKS.operation(0x0308, Checks.TIMES, "7ffe 8000000000000000", THREE, Checks.OVER | Checks.LOSS, INFINITE);
-        CHECKS.operation(0x0310, Checks.BY, "0001 8000000000000000", "4000 8000000000000000",
-                0, "0000 4000000000000000");
-    }
-
-    private static void othersDoNotCount() {
-        third(0x033f | 0xe0c0, "3ffd aaaaaaaaaaaaaaab");
-        CHECKS.operation(0x033f | 0xe0c0, Checks.PLUS, INFINITE, INFINITE, Checks.INVALID, "ffff c000000000000000");
-        CHECKS.operation(0xe3c0, Checks.BY, ZERO, ZERO, Checks.INVALID, Checks.UNCHANGED);
-    }
-
-    private static void longWordsAreRefused() {
+    private static RealOperations prepared() {
         RealOperations x = new RealOperations();
-        x.control(0x0f3f);
-        int[] words = {0x10000, 0x1033f, -1, Integer.MIN_VALUE, Integer.MAX_VALUE, 0x7fff0000, 0xffff033f};
-        for (int word : words) {
-            CHECKS.refusesArgument("control(" + word + ")", () -> x.control(word));
+        put(x, 1, ONE);
+        put(x, 2, THREE);
+        put(x, 4, INFINITE);
+        return x;
+    }
+
+    private void lastWordCounts() {
+        sentence(PROMISE_2, "The control's word.");
+        RealOperations x = prepared();
+        int[] words = {0xffff, 0x0000, 0x0b3f, 0x033f, 0x0c00, 0xffff, 0x123f, 0x0000};
+        String[] thirds = {
+            "aaaaaaaaaaaaaaaa", "aaaaab0000000000", "aaaaaaaaaaaaaaab", "aaaaaaaaaaaaaaab", "aaaaaa0000000000",
+            "aaaaaaaaaaaaaaaa", "aaaaaaaaaaaaa800", "aaaaab0000000000",
+        };
+        for (int i = 0; i < words.length; i++) {
+            x.control(words[i]);
+            String by = " by control " + Integer.toHexString(words[i]) + ", given as number " + i;
+            // It stays until the next one.
+            for (int again = 0; again < 2; again++) {
+                put(x, 3, UNCHANGED);
+                same("1 / 3" + by, x.operate(BY, 1, 2, 3), LOSS);
+                same("1 / 3" + by, shown(x, 3), "3ffd " + thirds[i]);
+            }
+            put(x, 3, UNCHANGED);
+            same("0 / 0" + by, x.operate(BY, 0, 0, 3), INVALID);
+            same("0 / 0" + by, shown(x, 3), (words[i] & 1) == 0 ? UNCHANGED : INDEFINITE);
+            same("infinite + infinite" + by, x.operate(PLUS, 4, 4, 3), (words[i] & 0x1000) == 0 ? INVALID : 0);
         }
-        Checks.put(x, 1, ONE);
-        Checks.put(x, 2, THREE);
-        x.operate(Checks.BY, 1, 2, 3);
-        CHECKS.same("1 / 3 by the control before", Checks.shown(x, 3), "3ffd aaaaaaaaaaaaaaaa");
+    }
+
+    private void nothingElseChanges() {
+        RealOperations x = prepared();
+        put(x, 3, NO_NUMBER);
+        put(x, 7, UNNORMAL_ONE);
+        x.operate(BY, 1, 2, 5);
+        for (int word : new int[] {0, 0xffff, 0x8000, 0x003f, 0x1fff}) {
+            x.control(word);
+            same("told() after control()", x.told(), LOSS);
+            same("register 0 after control()", shown(x, 0), ZERO);
+            same("register 3 after control()", shown(x, 3), NO_NUMBER);
+            same("register 5 after control()", shown(x, 5), "3ffd aaaaaaaaaaaaaaab");
+            same("register 7 after control()", shown(x, 7), UNNORMAL_ONE);
+        }
+    }
+
+    private void longWords() {
+        sentence(PROMISE_2, "IllegalArgumentException when it has more than 16 bits.");
+        RealOperations x = prepared();
+        x.control(0x0f3f);
+        for (int word : LONG_WORDS) {
+            refusesArgument("control(" + word + ")", () -> x.control(word));
+        }
+        for (int bit = 16; bit < 32; bit++) {
+            int word = 1 << bit | 0x003f;
+            refusesArgument("control(" + word + ")", () -> x.control(word));
+        }
+        x.operate(BY, 1, 2, 3);
+        same("1 / 3 by the control before", shown(x, 3), "3ffd aaaaaaaaaaaaaaaa");
+        // The longest word, and one for each bit, are taken.
+        for (int bit = 0; bit < 16; bit++) {
+            x.control(1 << bit);
+        }
         x.control(0xffff);
-        x.operate(Checks.BY, 1, 2, 3);
-        CHECKS.same("1 / 3 by control 0xffff", Checks.shown(x, 3), "3ffd aaaaaaaaaaaaaaaa");
+        x.operate(BY, 1, 2, 3);
+        same("1 / 3 by control 0xffff", shown(x, 3), "3ffd aaaaaaaaaaaaaaaa");
         x.control(0);
-        x.operate(Checks.BY, 1, 2, 3);
-        CHECKS.same("1 / 3 by control 0", Checks.shown(x, 3), "3ffd aaaaab0000000000");
+        x.operate(BY, 1, 2, 3);
+        same("1 / 3 by control 0", shown(x, 3), "3ffd aaaaab0000000000");
     }
 }

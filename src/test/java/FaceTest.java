@@ -6,39 +6,67 @@ import java.lang.reflect.Modifier;
 import java.util.TreeSet;
 
 /** The public face: just what the document has, and nothing beside it that can be seen. */
-public final class FaceTest {
+public final class FaceTest extends Sentences {
+    private static final String INDEX = "IndexOutOfBoundsException";
+    private static final String ARGUMENT = "IllegalArgumentException";
+
+    private final TreeSet<String> seen = new TreeSet<>();
+
     public static void main(String[] args) {
-        Checks checks = new Checks();
-        Class<?> face = RealOperations.class;
-        TreeSet<String> seen = new TreeSet<>();
-        for (Constructor<?> c : face.getDeclaredConstructors()) {
-            addIfSeen(seen, c, c.toString());
-        }
-        for (Method m : face.getDeclaredMethods()) {
-            addIfSeen(seen, m, m.toString());
-        }
-        for (Field f : face.getDeclaredFields()) {
-            addIfSeen(seen, f, f.toString());
-        }
-        TreeSet<String> due = new TreeSet<>();
-        String index = "java.lang.IndexOutOfBoundsException";
-        String argument = "java.lang.IllegalArgumentException";
-        due.add("public RealOperations()");
-        due.add("public void RealOperations.control(int) throws " + argument);
-        due.add("public void RealOperations.set(int,int,int,int) throws " + index + "," + argument);
-        due.add("public int RealOperations.part(int,int) throws " + index + "," + argument);
-        due.add("public int RealOperations.operate(int,int,int,int) throws " + index + "," + argument);
-        due.add("public int RealOperations.told()");
-        due.add("public void RealOperations.clear()");
-        checks.same("the face", seen.toString(), due.toString());
-        checks.same("the class is final", Modifier.isFinal(face.getModifiers()) ? 1 : 0, 1);
-        checks.same("the class is public", Modifier.isPublic(face.getModifiers()) ? 1 : 0, 1);
-        checks.end();
+        new FaceTest().runAlone();
     }
 
-    private static void addIfSeen(TreeSet<String> seen, Member member, String text) {
+    @Override
+    void run() {
+        lookAtTheFace();
+        sentence(FACE, "public final class RealOperations {");
+        Class<?> face = RealOperations.class;
+        same("the class is final", Modifier.isFinal(face.getModifiers()) ? 1 : 0, 1);
+        same("the class is public", Modifier.isPublic(face.getModifiers()) ? 1 : 0, 1);
+        same("the class has no package", face.getPackageName(), "");
+
+        member(PROMISE_1, "RealOperations()", "public RealOperations()", "RealOperations()");
+        member(PROMISE_2, "void control(int word) throws " + ARGUMENT,
+                "public void control(int word) throws " + ARGUMENT,
+                "void RealOperations.control(int) throws " + ARGUMENT);
+        member(PROMISE_3, "void set(int r, int top, int high, int low) throws " + INDEX + ", " + ARGUMENT,
+                "public void set(int r, int top, int high, int low) throws " + INDEX + ", " + ARGUMENT,
+                "void RealOperations.set(int,int,int,int) throws " + INDEX + "," + ARGUMENT);
+        member(PROMISE_4, "int part(int r, int what) throws " + INDEX + ", " + ARGUMENT,
+                "public int part(int r, int what) throws " + INDEX + ", " + ARGUMENT,
+                "int RealOperations.part(int,int) throws " + INDEX + "," + ARGUMENT);
+        member(PROMISE_5, "int operate(int operation, int a, int b, int to) throws " + INDEX + ", " + ARGUMENT,
+                "public int operate(int operation, int a, int b, int to) throws " + INDEX + ", " + ARGUMENT,
+                "int RealOperations.operate(int,int,int,int) throws " + INDEX + "," + ARGUMENT);
+        member(PROMISE_6, "int told()", "public int told()", "int RealOperations.told()");
+        member(PROMISE_7, "void clear()", "public void clear()", "void RealOperations.clear()");
+        same("what else can be seen", seen.toString(), "[]");
+    }
+
+    private void member(String promise, String inPromise, String inFace, String signature) {
+        String due = "public " + signature;
+        sentence(promise, inPromise);
+        same(due, seen.contains(due) ? "is there" : "is not there", "is there");
+        sentence(FACE, inFace);
+        same(due, seen.remove(due) ? "is there" : "is not there", "is there");
+    }
+
+    private void lookAtTheFace() {
+        Class<?> face = RealOperations.class;
+        for (Constructor<?> c : face.getDeclaredConstructors()) {
+            addIfSeen(c);
+        }
+        for (Method m : face.getDeclaredMethods()) {
+            addIfSeen(m);
+        }
+        for (Field f : face.getDeclaredFields()) {
+            addIfSeen(f);
+        }
+    }
+
+    private void addIfSeen(Member member) {
         if (!Modifier.isPrivate(member.getModifiers())) {
-            seen.add(text);
+            seen.add(member.toString().replace("java.lang.", ""));
         }
     }
 }

@@ -2,7 +2,7 @@ import java.util.Random;
 import java.util.function.IntSupplier;
 
 /** Promises 1 to 7: long runs of drawn calls, each held against the model. The seed is fixed. */
-public final class ModelTest {
+public final class ModelTest extends Sentences {
     private static final int RUNS = 1500;
     private static final int STEPS = 120;
     private static final int[] EDGE_POWERS = {
@@ -10,16 +10,16 @@ public final class ModelTest {
         32700, 32702, 32764, 32765, 32766, 32767, 32767, 32767,
     };
 
-    private final Checks checks = new Checks();
     private final Random random = new Random(20261115);
     private RealOperations real;
     private Model model;
 
     public static void main(String[] args) {
-        new ModelTest().runAll();
+        new ModelTest().runAlone();
     }
 
-    private void runAll() {
+    @Override
+    void run() {
         for (int run = 0; run < RUNS; run++) {
             real = new RealOperations();
             model = new Model();
@@ -28,10 +28,9 @@ public final class ModelTest {
                 drawCall();
             }
             for (int r = 0; r < 8; r++) {
-                checks.same("register " + r + " at the end of run " + run, Checks.shown(real, r), model.shown(r));
+                same("register " + r + " at the end of run " + run, shown(real, r), model.shown(r));
             }
         }
-        checks.end();
     }
 
     private void drawCall() {
@@ -86,7 +85,7 @@ public final class ModelTest {
         }
         both(text, () -> real.operate(operation, a, b, to), () -> model.operate(operation, a, b, to));
         if (isRegister(to)) {
-            checks.same(text + " left", Checks.shown(real, to), model.shown(to));
+            same(text + " left", shown(real, to), model.shown(to));
         }
     }
 
@@ -146,7 +145,7 @@ public final class ModelTest {
     }
 
     private void both(String text, IntSupplier ofClass, IntSupplier ofModel) {
-        checks.same(text, answer(ofClass), answer(ofModel));
+        same(text, answer(ofClass), answer(ofModel));
     }
 
     private static String answer(IntSupplier call) {

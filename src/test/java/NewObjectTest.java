@@ -1,61 +1,69 @@
 /** Promise 1: what a new object holds, and that objects share nothing. */
-public final class NewObjectTest {
-    private static final Checks CHECKS = new Checks();
-
-    private static final String ZERO = "0000 0000000000000000";
-    private static final String ONE = "3fff 8000000000000000";
-    private static final String THREE = "4000 c000000000000000";
-    private static final String INFINITE = "7fff 8000000000000000";
-    private static final String INDEFINITE = "ffff c000000000000000";
-
+public final class NewObjectTest extends Sentences {
     public static void main(String[] args) {
-        RealOperations x = new RealOperations();
-        for (int r = 0; r < 8; r++) {
-            CHECKS.same("register " + r, Checks.shown(x, r), ZERO);
-        }
-        CHECKS.same("told()", x.told(), 0);
-        controlIsTheFirst();
-        objectsShareNothing();
-        CHECKS.end();
+        new NewObjectTest().runAlone();
+    }
+
+    @Override
+    void run() {
+        theControl();
+        theRegisters();
     }
 
     /** 0x03ff: all masked, 64 digits, to the nearest, one infinite number. */
-    private static void controlIsTheFirst() {
-        unchangedControl(Checks.BY, ONE, THREE, Checks.LOSS, "3ffd aaaaaaaaaaaaaaab");
-        unchangedControl(Checks.BY, "bfff 8000000000000000", THREE, Checks.LOSS, "bffd aaaaaaaaaaaaaaab");
-        unchangedControl(Checks.BY, "4000 8000000000000000", THREE, Checks.LOSS, "3ffe aaaaaaaaaaaaaaab");
-        unchangedControl(Checks.BY, ONE, "4001 a000000000000000", Checks.LOSS, "3ffc cccccccccccccccd");
-        unchangedControl(Checks.PLUS, INFINITE, INFINITE, Checks.INVALID, INDEFINITE);
-        unchangedControl(Checks.ROOT, INFINITE, ONE, Checks.INVALID, INDEFINITE);
-        unchangedControl(Checks.PLUS, "0000 0000000000000001", ZERO, Checks.DENORMAL, "0000 0000000000000001");
-        unchangedControl(Checks.BY, ONE, ZERO, Checks.DIVISION, INFINITE);
-        unchangedControl(Checks.TIMES, "7ffe 8000000000000000", THREE, Checks.OVER | Checks.LOSS, INFINITE);
-        unchangedControl(Checks.BY, "0001 8000000000000001", "4000 8000000000000000",
-                Checks.UNDER | Checks.LOSS, "0000 4000000000000000");
+    private void theControl() {
+        sentence(PROMISE_1, "The control is 0x03ff");
+        withoutControl(BY, ZERO, ZERO, INVALID, INDEFINITE);
+        withoutControl(PLUS, SMALL, ZERO, DENORMAL, SMALL);
+        withoutControl(BY, ONE, ZERO, DIVISION, INFINITE);
+        withoutControl(TIMES, "7ffe 8000000000000000", THREE, OVER | LOSS, INFINITE);
+        withoutControl(BY, "0001 8000000000000001", TWO, UNDER | LOSS, "0000 4000000000000000");
+        withoutControl(PLUS, "3fff 8000000000000001", ZERO, 0, "3fff 8000000000000001");
+        withoutControl(BY, ONE, THREE, LOSS, "3ffd aaaaaaaaaaaaaaab");
+        withoutControl(BY, MINUS_ONE, THREE, LOSS, "bffd aaaaaaaaaaaaaaab");
+        withoutControl(BY, "4001 a000000000000000", THREE, LOSS, "3fff d555555555555555");
+        withoutControl(BY, "c001 a000000000000000", THREE, LOSS, "bfff d555555555555555");
+        withoutControl(MINUS, ONE, ONE, 0, ZERO);
+        withoutControl(PLUS, INFINITE, INFINITE, INVALID, INDEFINITE);
+        withoutControl(ROOT, INFINITE, ONE, INVALID, INDEFINITE);
+        anotherObjectsControl();
     }
 
-    private static void unchangedControl(int operation, String a, String b, int told, String answer) {
+    private void withoutControl(int operation, String a, String b, int told, String answer) {
         RealOperations x = new RealOperations();
-        Checks.put(x, 6, a);
-        Checks.put(x, 7, b);
+        put(x, 6, a);
+        put(x, 7, b);
         String what = "without control(): operation " + operation + " on " + a + " and " + b;
-        CHECKS.same(what + " tells:", x.operate(operation, 6, 7, 0), told);
-        CHECKS.same(what, Checks.shown(x, 0), answer);
+        same(what + " tells:", x.operate(operation, 6, 7, 0), told);
+        same(what, shown(x, 0), answer);
     }
 
-    private static void objectsShareNothing() {
+    private void anotherObjectsControl() {
         RealOperations x = new RealOperations();
-        x.control(0);
+        x.control(0x1c00);
+        withoutControl(BY, ONE, THREE, LOSS, "3ffd aaaaaaaaaaaaaaab");
+        withoutControl(BY, ZERO, ZERO, INVALID, INDEFINITE);
+        put(x, 1, ONE);
+        put(x, 2, THREE);
+        new RealOperations();
+        x.operate(BY, 1, 2, 3);
+        same("1 / 3 by control 0x1c00 with another object made", shown(x, 3), "3ffd aaaaaa0000000000");
+    }
+
+    private void theRegisters() {
+        sentence(PROMISE_1, "all registers are ZERO without the sign -.");
+        RealOperations x = new RealOperations();
         for (int r = 0; r < 8; r++) {
-            Checks.put(x, r, INFINITE);
+            same("part(" + r + ", 0)", x.part(r, 0), 0);
+            same("part(" + r + ", 1)", x.part(r, 1), 0);
+            same("part(" + r + ", 2)", x.part(r, 2), 0);
+            put(x, r, MINUS_GREATEST);
         }
-        x.operate(Checks.PLUS, 0, 0, 0);
         RealOperations y = new RealOperations();
-        CHECKS.same("told() of another object", y.told(), 0);
         for (int r = 0; r < 8; r++) {
-            CHECKS.same("register " + r + " of another object", Checks.shown(y, r), ZERO);
+            same("register " + r + " of another object", shown(y, r), ZERO);
+            same("root of register " + r, y.operate(ROOT, r, r, 0), 0);
+            same("root of register " + r, shown(y, 0), ZERO);
         }
-        CHECKS.same("0 / 0 by another object's control tells:", y.operate(Checks.BY, 0, 1, 2), Checks.INVALID);
-        CHECKS.same("0 / 0 by another object's control", Checks.shown(y, 2), INDEFINITE);
     }
 }
