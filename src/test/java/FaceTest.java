@@ -65,7 +65,7 @@ public final class FaceTest extends Sentences {
     }
 
     private void addIfSeen(Member member) {
-        if (!Modifier.isPrivate(member.getModifiers())) {
+        if (!Modifier.isPrivate(member.getModifiers()) && !member.isSynthetic()) {
             seen.add(member.toString().replace("java.lang.", ""));
         }
     }

@@ -71,6 +71,9 @@ public final class MakeTest extends Sentences {
         sentence(TO_MAKE, "If x < 2^-16382: with UNDER masked the answer is x rounded to the unit 2^(-16381 - n)");
         product(MASKED, LEAST_NORMAL, HALF, 0, "0000 4000000000000000");
         product(MASKED, LEAST_NORMAL, "3fc0 8000000000000000", 0, SMALL);
+        // Just 2^-16382, and what is rounded to it from above, is not below it.
+        product(MASKED, "0002 8000000000000000", HALF, 0, LEAST_NORMAL);
+        sum(MASKED_24, "0001 8000000000000001", ZERO, LOSS, LEAST_NORMAL);
         // Its unit is the same from just below 2^-16382 down to less than itself.
         for (int control : new int[] {MASKED | UP, MASKED_24 | UP, MASKED_53 | UP}) {
             String unit = control == (MASKED | UP) ? SMALL
@@ -95,6 +98,12 @@ public final class MakeTest extends Sentences {
         product(MASKED, LEAST_NORMAL, "3fbf 8000000000000001", UNDER | LOSS, SMALL);
         product(MASKED, LEAST_NORMAL, "3fbe ffffffffffffffff", UNDER | LOSS, ZERO);
         product(MASKED, LEAST_NORMAL, "3fc0 c000000000000000", UNDER | LOSS, "0000 0000000000000002");
+        // Less than a half of it, from just below down to the least product.
+        for (int power = 0x3fbe; power > 0; power -= power > 0x3f30 ? 1 : 0x0fff) {
+            product(MASKED, "0001 8000000000000001", real(power, 0x8000000000000002L), UNDER | LOSS, ZERO);
+            product(MASKED | UP, "0001 8000000000000001", real(power, 0x8000000000000002L), UNDER | LOSS, SMALL);
+            product(MASKED, "0001 ffffffffffffffff", real(power - 1, -1), UNDER | LOSS, ZERO);
+        }
         product(MASKED | UP, minus(LEAST_NORMAL), LEAST_NORMAL, UNDER | LOSS, MINUS_ZERO);
         product(MASKED | DOWN, minus(LEAST_NORMAL), LEAST_NORMAL, UNDER | LOSS, MINUS_SMALL);
         product(MASKED, minus(LEAST_NORMAL), LEAST_NORMAL, UNDER | LOSS, MINUS_ZERO);
@@ -132,6 +141,7 @@ public final class MakeTest extends Sentences {
         sum(OPEN_UNDER, SMALL, ZERO, DENORMAL | UNDER, "5fc2 8000000000000000");
         sum(MASKED_24 & ~UNDER, SMALL, ZERO, DENORMAL | UNDER, "5fc2 8000000000000000");
         sum(OPEN_UNDER, "0001 8000000000000001", minus(LEAST_NORMAL), UNDER, "5fc2 8000000000000000");
+        product(OPEN_UNDER, "0001 0000000000000001", "0001 0000000000000001", UNDER, "1f85 8000000000000000");
         // From 2^-16382 on it is not told.
         sum(OPEN_UNDER, SMALL, JUST_BELOW_NORMAL, DENORMAL, LEAST_NORMAL);
         product(OPEN_UNDER, LEAST_NORMAL, ONE, 0, LEAST_NORMAL);
@@ -145,6 +155,7 @@ public final class MakeTest extends Sentences {
                 UNDER | LOSS, "2003 8000000000000003");
         quotient(OPEN_UNDER, LEAST_NORMAL, THREE, UNDER | LOSS, "5fff aaaaaaaaaaaaaaab");
         quotient(OPEN_UNDER | TOWARDS_0, LEAST_NORMAL, THREE, UNDER | LOSS, "5fff aaaaaaaaaaaaaaaa");
+        quotient(OPEN_UNDER, "0001 0000000000000001", GREATEST, UNDER | LOSS, "1fc2 8000000000000001");
         sum(MASKED_24 & ~UNDER | TOWARDS_0, JUST_BELOW_NORMAL, ZERO, DENORMAL | UNDER | LOSS, "6000 ffffff0000000000");
         // Rounded up to 2^-16382 it was too small all the same.
         sum(MASKED_24 & ~UNDER, JUST_BELOW_NORMAL, ZERO, DENORMAL | UNDER | LOSS, "6001 8000000000000000");
@@ -217,6 +228,7 @@ public final class MakeTest extends Sentences {
         product(OPEN_OVER, MINUS_GREAT, TWO, OVER, "9fff 8000000000000000");
         sum(OPEN_OVER, GREATEST, GREATEST, OVER, "1fff ffffffffffffffff");
         quotient(OPEN_OVER, GREATEST, SMALL, DENORMAL | OVER, "603b ffffffffffffffff");
+        quotient(OPEN_OVER, GREATEST, LEAST_NORMAL, OVER, "5ffc ffffffffffffffff");
         for (int rounding : ROUNDINGS) {
             product(OPEN_OVER | rounding, GREAT, TWO, OVER, "1fff 8000000000000000");
             product(OPEN_OVER | rounding, MINUS_GREAT, TWO, OVER, "9fff 8000000000000000");

@@ -87,6 +87,24 @@ public final class OperateTest extends Sentences {
         same("1 / 0, not masked", x.operate(BY, 1, 0, 7), DIVISION);
         same("greatest + greatest, not masked", x.operate(PLUS, 4, 4, 7), OVER);
         same("1 - 1", x.operate(MINUS, 1, 1, 7), 0);
+        notWhatWasToldBefore();
+    }
+
+    /** Each of these tells one thing alone by the control 0x0307, and 1 + 1 behind it nothing. */
+    private void notWhatWasToldBefore() {
+        int[][] calls = {{BY, 0, 0}, {BY, 0, 3}, {BY, 1, 0}, {PLUS, 4, 4}, {TIMES, 5, 5}, {BY, 1, 2}};
+        for (int i = 0; i < 6; i++) {
+            RealOperations x = new RealOperations();
+            x.control(0x0307);
+            put(x, 1, ONE);
+            put(x, 2, THREE);
+            put(x, 3, SMALL);
+            put(x, 4, GREATEST);
+            put(x, 5, LEAST_NORMAL);
+            same("operation " + i, x.operate(calls[i][0], calls[i][1], calls[i][2], 7), 1 << i);
+            same("1 + 1 after operation " + i, x.operate(PLUS, 1, 1, 7), 0);
+            same("1 / 3 after operation " + i, x.operate(BY, 1, 2, 7), LOSS);
+        }
     }
 
     private void noSuchRegister() {

@@ -110,6 +110,10 @@ public final class RoundTest extends Sentences {
                 "3fff b504f333f9de6484", "3fff b504f333f9de6483", "3fff b504f333f9de6484");
         rootOfEachRounding("4000 ffffffffffffffff", "3fff ffffffffffffffff", "3fff ffffffffffffffff", TWO);
         rootOfEachRounding("3fff 8000000000000001", ONE, ONE, "3fff 8000000000000001");
+        // The roots of 5 and 3 go on with f9ce... and 92ba..., behind an even and an odd digit.
+        rootOfEachRounding("4001 a000000000000000",
+                "4000 8f1bbcdcbfa53e0b", "4000 8f1bbcdcbfa53e0a", "4000 8f1bbcdcbfa53e0b");
+        rootOfEachRounding(THREE, "3fff ddb3d742c265539e", "3fff ddb3d742c265539d", "3fff ddb3d742c265539e");
         rootOfEachRounding("3fff 8000000000000003",
                 "3fff 8000000000000001", "3fff 8000000000000001", "3fff 8000000000000002");
     }

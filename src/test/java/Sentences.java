@@ -112,8 +112,12 @@ abstract class Sentences {
     abstract void run();
 
     final void runAlone() {
-        run();
-        beginSentence();
+        try {
+            run();
+            beginSentence();
+        } catch (RuntimeException e) {
+            fail("a call that should answer threw " + e);
+        }
         System.out.println(wrong == 0 ? "all answers are as due" : wrong + " answers are not as due");
         if (wrong != 0) {
             System.exit(1);
