@@ -12,28 +12,13 @@ public final class ClearTest extends Sentences {
         nothingElseChanges();
     }
 
-    private static RealOperations prepared() {
-        RealOperations x = new RealOperations();
-        x.control(0x0307);
-        put(x, 1, ONE);
-        put(x, 2, THREE);
-        put(x, 3, SMALL);
-        put(x, 4, GREATEST);
-        put(x, 5, LEAST_NORMAL);
-        return x;
-    }
-
-    /** Each of these tells one thing alone. */
-    private static final int[][] CALLS = {
-        {BY, 0, 0}, {BY, 0, 3}, {BY, 1, 0}, {PLUS, 4, 4}, {TIMES, 5, 5}, {BY, 1, 2},
-    };
-
     private void nothingIsKept() {
         for (int which = 0; which < 64; which++) {
-            RealOperations x = prepared();
+            RealOperations x = readyToTell(0x0307);
             for (int i = 0; i < 6; i++) {
+                int[] call = EACH_TELLS_ONE[i];
                 if ((which >> i & 1) != 0) {
-                    x.operate(CALLS[i][0], CALLS[i][1], CALLS[i][2], 7);
+                    x.operate(call[0], call[1], call[2], 7);
                 }
             }
             same("told() before clear()", x.told(), which);
@@ -49,11 +34,12 @@ public final class ClearTest extends Sentences {
 
     private void laterOnesAreKept() {
         for (int i = 0; i < 6; i++) {
-            RealOperations x = prepared();
+            int[] call = EACH_TELLS_ONE[i];
+            RealOperations x = readyToTell(0x0307);
             x.operate(BY, 0, 0, 7);
             x.operate(BY, 1, 2, 7);
             x.clear();
-            same("told by operation " + i + " after clear()", x.operate(CALLS[i][0], CALLS[i][1], CALLS[i][2], 7), 1 << i);
+            same("operation " + i + " after clear()", x.operate(call[0], call[1], call[2], 7), 1 << i);
             same("told() of operation " + i + " after clear()", x.told(), 1 << i);
             x.operate(PLUS, 1, 1, 7);
             same("told() stays", x.told(), 1 << i);
@@ -61,7 +47,7 @@ public final class ClearTest extends Sentences {
     }
 
     private void nothingElseChanges() {
-        RealOperations x = prepared();
+        RealOperations x = readyToTell(0x0307);
         x.control(0x0c3e);
         put(x, 0, NO_NUMBER);
         put(x, 6, UNCHANGED);

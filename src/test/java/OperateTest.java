@@ -67,17 +67,13 @@ public final class OperateTest extends Sentences {
 
     private void answersWhatIsTold() {
         sentence(PROMISE_5, "; answers what is told.");
-        RealOperations x = new RealOperations();
-        put(x, 1, ONE);
-        put(x, 2, THREE);
-        put(x, 3, SMALL);
-        put(x, 4, GREATEST);
+        RealOperations x = readyToTell(MASKED);
         // Only what this operation tells, whatever was told before.
         same("0 / 0", x.operate(BY, 0, 0, 7), INVALID);
         same("1 + 1", x.operate(PLUS, 1, 1, 7), 0);
         same("denormal + 0", x.operate(PLUS, 3, 0, 7), DENORMAL);
         same("1 / 0", x.operate(BY, 1, 0, 7), DIVISION);
-        same("greatest times greatest", x.operate(TIMES, 4, 4, 7), OVER | LOSS);
+        same("2^16383 times 2^16383", x.operate(TIMES, 4, 4, 7), OVER | LOSS);
         same("denormal times denormal", x.operate(TIMES, 3, 3, 7), DENORMAL | UNDER | LOSS);
         same("1 / 3", x.operate(BY, 1, 2, 7), LOSS);
         same("1 / 1", x.operate(BY, 1, 1, 7), 0);
@@ -85,23 +81,16 @@ public final class OperateTest extends Sentences {
         same("0 / 0, not masked", x.operate(BY, 0, 0, 7), INVALID);
         same("denormal + 1, not masked", x.operate(PLUS, 3, 1, 7), DENORMAL);
         same("1 / 0, not masked", x.operate(BY, 1, 0, 7), DIVISION);
-        same("greatest + greatest, not masked", x.operate(PLUS, 4, 4, 7), OVER);
+        same("2^16383 + 2^16383, not masked", x.operate(PLUS, 4, 4, 7), OVER);
         same("1 - 1", x.operate(MINUS, 1, 1, 7), 0);
         notWhatWasToldBefore();
     }
 
-    /** Each of these tells one thing alone by the control 0x0307, and 1 + 1 behind it nothing. */
     private void notWhatWasToldBefore() {
-        int[][] calls = {{BY, 0, 0}, {BY, 0, 3}, {BY, 1, 0}, {PLUS, 4, 4}, {TIMES, 5, 5}, {BY, 1, 2}};
         for (int i = 0; i < 6; i++) {
-            RealOperations x = new RealOperations();
-            x.control(0x0307);
-            put(x, 1, ONE);
-            put(x, 2, THREE);
-            put(x, 3, SMALL);
-            put(x, 4, GREATEST);
-            put(x, 5, LEAST_NORMAL);
-            same("operation " + i, x.operate(calls[i][0], calls[i][1], calls[i][2], 7), 1 << i);
+            int[] call = EACH_TELLS_ONE[i];
+            RealOperations x = readyToTell(0x0307);
+            same("operation " + i, x.operate(call[0], call[1], call[2], 7), 1 << i);
             same("1 + 1 after operation " + i, x.operate(PLUS, 1, 1, 7), 0);
             same("1 / 3 after operation " + i, x.operate(BY, 1, 2, 7), LOSS);
         }

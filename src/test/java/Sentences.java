@@ -96,6 +96,11 @@ abstract class Sentences {
         0x10000, 0x1ffff, 0x7fffffff, -1, Integer.MIN_VALUE, 0xffff0000, -32768, 0x1033f, 0x8000033f, 0xffff3fff,
     };
 
+    /** Operations on registers of readyToTell: the i-th tells 2^i alone, if the first three are masked alone. */
+    static final int[][] EACH_TELLS_ONE = {
+        {BY, 0, 0}, {BY, 0, 3}, {BY, 1, 0}, {PLUS, 4, 4}, {TIMES, 5, 5}, {BY, 1, 2},
+    };
+
     /** What stands in the register of the answer before an operation. */
     static final String UNCHANGED = "4abc 123456789abcdef0";
 
@@ -257,6 +262,18 @@ abstract class Sentences {
         sum(control | DOWN, minus(a), minus(b), LOSS, minus(above));
         sum(control | UP, minus(a), minus(b), LOSS, minus(below));
         sum(control | TOWARDS_0, minus(a), minus(b), LOSS, minus(below));
+    }
+
+    /** An object whose registers are 0, 1, 3, the least real, 2^16383, 2^-16382, 0 and 0. */
+    static RealOperations readyToTell(int control) {
+        RealOperations x = new RealOperations();
+        x.control(control);
+        put(x, 1, ONE);
+        put(x, 2, THREE);
+        put(x, 3, SMALL);
+        put(x, 4, "7ffe 8000000000000000");
+        put(x, 5, LEAST_NORMAL);
+        return x;
     }
 
     /** A real is written as its top and its fraction, both in hex. */

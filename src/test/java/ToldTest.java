@@ -12,17 +12,6 @@ public final class ToldTest extends Sentences {
         sum();
     }
 
-    private static RealOperations prepared(int control) {
-        RealOperations x = new RealOperations();
-        x.control(control);
-        put(x, 1, ONE);
-        put(x, 2, THREE);
-        put(x, 3, SMALL);
-        put(x, 4, "7ffe 8000000000000000");
-        put(x, 5, LEAST_NORMAL);
-        return x;
-    }
-
     private void step(RealOperations x, int operation, int a, int b, int told, int toldInAll) {
         String what = "operate(" + operation + ", " + a + ", " + b + ", 7)";
         same(what, x.operate(operation, a, b, 7), told);
@@ -33,7 +22,7 @@ public final class ToldTest extends Sentences {
     private void upToNow() {
         sentence(PROMISE_6, "All that was told up to now");
         same("told() of a new object", new RealOperations().told(), 0);
-        RealOperations x = prepared(0x003f);
+        RealOperations x = readyToTell(0x003f);
         step(x, PLUS, 1, 1, 0, 0);
         step(x, BY, 1, 2, LOSS, LOSS);
         step(x, BY, 1, 0, DIVISION, LOSS | DIVISION);
@@ -42,7 +31,7 @@ public final class ToldTest extends Sentences {
         step(x, BY, 1, 2, LOSS, LOSS | DIVISION);
         step(x, BY, 0, 0, INVALID, LOSS | DIVISION | INVALID);
         // Also what is not masked, and it is kept when the control changes.
-        RealOperations y = prepared(0x0300);
+        RealOperations y = readyToTell(0x0300);
         step(y, BY, 0, 0, INVALID, 1);
         step(y, PLUS, 3, 0, DENORMAL, 3);
         step(y, BY, 1, 0, DIVISION, 7);
@@ -55,7 +44,7 @@ public final class ToldTest extends Sentences {
 
     private void onlyByOperations() {
         sentence(PROMISE_6, "by operations");
-        RealOperations x = prepared(0x003f);
+        RealOperations x = readyToTell(0x003f);
         for (String real : new String[] {NO_NUMBER, SMALL, INFINITE, UNNORMAL_ONE, GREATEST}) {
             put(x, 0, real);
             x.part(0, 1);
@@ -80,7 +69,7 @@ public final class ToldTest extends Sentences {
 
     private void eachOnce() {
         sentence(PROMISE_6, ", each once");
-        RealOperations x = prepared(0x003f);
+        RealOperations x = readyToTell(0x003f);
         step(x, BY, 1, 2, 32, 32);
         step(x, BY, 1, 2, 32, 32);
         step(x, BY, 0, 0, 1, 33);
@@ -98,7 +87,7 @@ public final class ToldTest extends Sentences {
     private void sum() {
         sentence(PROMISE_6, "(a sum of what is named above).");
         // Each alone, in the order of its number.
-        RealOperations x = prepared(0x0307);
+        RealOperations x = readyToTell(0x0307);
         step(x, BY, 0, 0, 1, 1);
         step(x, BY, 0, 3, 2, 1 + 2);
         step(x, BY, 1, 0, 4, 1 + 2 + 4);
@@ -106,7 +95,7 @@ public final class ToldTest extends Sentences {
         step(x, TIMES, 5, 5, 16, 1 + 2 + 4 + 8 + 16);
         step(x, BY, 1, 2, 32, 1 + 2 + 4 + 8 + 16 + 32);
         // And with others left out.
-        RealOperations y = prepared(0x0307);
+        RealOperations y = readyToTell(0x0307);
         step(y, BY, 1, 2, 32, 32);
         step(y, BY, 0, 3, 2, 34);
         step(y, PLUS, 4, 4, 8, 42);
